@@ -42,6 +42,7 @@ public final class PromiseTests {
     count();
     trace();
     farOffNumbers();
+    fullTable();
     CHECKS.end("PromiseTests");
   }
 
@@ -170,6 +171,28 @@ public final class PromiseTests {
     told("d0 1 0 ", -17);
     told("d0 1 a;", -15);
     told("n2;#", -11);
+    told("n g0 0 a;", -12);
+    told("g d0 1 0;", -12);
+    told("g0 d1 1 0;", -13);
+    told("g0 0 g1 0 a;", -15);
+    told("g0 0 a g1 0 a;", -17);
+    told("d g0 0 a;", -12);
+    told("d0 g0 0 a;", -13);
+    told("d0 1 g0 0 a;", -15);
+    told("d0 1 0 d1 1 0;", -17);
+    told("z;", -10);
+    told("nz3;", -10);
+    told("`3;", -10);
+    told("{3;", -10);
+    told("n/;", -11);
+    told("n:;", -11);
+    told("g0 0 `;", -15);
+    told((char) 0 + "n3;", -10);
+    told((char) 255 + "n3;", -10);
+    told("n3;" + " ".repeat(137), 1);
+    told("n3" + " ".repeat(138), -150);
+    told("n" + "3".repeat(139), -11);
+    told("a".repeat(140), -10);
     TrayTurns x = Checks.told(EIGHT);
     x.spins(1, 0);
     x.sees(0, 0, 0);
@@ -221,6 +244,18 @@ public final class PromiseTests {
     due("4: anew, THE TRACE goes on", x.trace(), 1L);
     due("4: of nothing", x.table(), 0);
     due("4: of nothing, GUESTS", x.count(1), 0);
+    // what an older text, or one with a FAULT, has left behind must not come back
+    String[] texts = {"n9;g8 2 f;d7 9 1;", "n9;g0 0 a;d1 1 0", "d5 1 0;", "n4;", "d4 1 0;g4 0 a;"};
+    int[][] counts = {{9, 1, 1}, {9, 1, 1}, {6, 0, 1}, {4, 0, 0}, {6, 1, 1}};
+    for (int i = 0; i < texts.length; i++) {
+      Checks.type(x, texts[i]);
+      x.table();
+      x.clear();
+      for (int what = 0; what < 3; what++) due("4: count(" + what + ") behind " + texts[i], x.count(what), counts[i][what]);
+    }
+    due("4: LIKES of the last text", x.guest(0, 2), 1);
+    due("4: ARM of the last text", x.guest(0, 1), 0);
+    due("4: TALL of the last text", x.dish(0, 2), 0);
   }
 
   private static void guest() {
@@ -234,6 +269,10 @@ public final class PromiseTests {
     due("5: LIKES stays", x.guest(0, 2), 3);
     x.takes(2, 1);
     due("5: HAD what is not liked", x.guest(2, 3), 2);
+    x.takes(2, 0);
+    due("5: HAD two", x.guest(2, 3), 3);
+    due("5: HAD both that he likes", x.guest(2, 4), 0);
+    x.undo();
     due("5: NEEDS stays", x.guest(2, 4), 1);
     for (int what : new int[] {-1, 6}) due("5: guest(0," + what + ")", x.guest(0, what), BAD);
     for (int g : new int[] {-1, 3}) due("5: guest(" + g + ",0)", x.guest(g, 0), BAD);
@@ -288,6 +327,8 @@ public final class PromiseTests {
     due("7: SWAP", Checks.told("n9;g0 0 a;g4 0 b;d4 1 0;d0 1 0;").now(3), 1);
     due("7: SWAP must be less", Checks.told("n9;g0 0 a;g4 0 a;d0 9 0;").now(3), NONE);
     due("7: SWAP of 1 and 2", Checks.told("n9;g8 0 f;g1 0 a;g3 0 b;d3 1 0;d1 1 0;").now(3), 12);
+    due("7: SWAP of 1 and 3", Checks.told("n9;g8 0 f;g1 0 a;g5 0 f;g3 0 b;d3 1 0;d1 1 0;").now(3), 13);
+    due("7: SWAP of 0 and 2", Checks.told("n9;g4 0 a;g0 0 b;g7 0 f;d7 1 0;d0 1 0;").now(3), 2);
     due("7: SWAP, the least number", Checks.told("n9;g3 0 a;g0 2 f;g1 2 f;g2 2 f;d0 1 0;").now(3), 1);
     due("7: SWAP, the least TOUR", Checks.told("n9;g3 0 a;g1 2 f;g0 2 f;g2 2 f;d0 1 0;").now(3), 2);
     due("7: SWAP NONE, TOUR NONE", Checks.told("g0 0 a;g4 0 a;d4 1 0;").now(3), NONE);
@@ -404,7 +445,10 @@ public final class PromiseTests {
     due("12: none", x.undo(), STATE);
     for (int i = 0; i < 13; i++) x.spins(1, 0);
     due("12: ten are known", x.now(5), 10);
-    for (int left = 9; left >= 0; left--) due("12: left " + left, x.undo(), left);
+    for (int left = 9; left >= 0; left--) {
+      due("12: left " + left, x.undo(), left);
+      due("12: TURN with left " + left, x.now(0), (3 + left) % 6);
+    }
     due("12: older ones are lost", x.undo(), STATE);
     due("12: TURN of the oldest", x.now(0), 3);
     for (int i = 0; i < 10; i++) x.spins(1, 0);
@@ -451,6 +495,8 @@ public final class PromiseTests {
     due("14: nothing is known", x.now(5), 0);
     due("14: puts(3)", x.puts(3), BAD);
     due("14: puts(-1)", x.puts(-1), BAD);
+    due("14: the first of all", Checks.told("g0 0 a;d3 1 0;").puts(0), 0);
+    due("14: the last of all", Checks.told("g5 0 a;d3 1 0;").puts(0), 5);
     due("14: its own", Checks.told("g2 0 a;d2 1 0;").puts(0), 2);
     due("14: the lowest", Checks.told("g3 1 a;d5 1 0;").puts(0), 2);
     due("14: none is empty", Checks.told("n3;g0 0 c;d0 1 0;d1 1 0;d2 1 0;").puts(2), 2);
@@ -679,6 +725,33 @@ public final class PromiseTests {
     x.keep(0);
     x.back(0);
     due("25: goes on", x.trace(), 40000400L);
+  }
+
+  /** As many GUESTS and DISHES as can be, all of them at their most. */
+  private static void fullTable() {
+    String guests = "g0 2 abcdef;g1 2 abcdef;g2 2 abcdef;g3 2 abcdef;g4 2 abcdef;g8 0 abcdef;";
+    TrayTurns x = Checks.told("n9;" + guests + "d0 9 1;d1 9 1;d2 9 1;d3 9 1;d4 9 1;d8 9 1;");
+    due("full: PORTIONS", x.now(1), 54);
+    // the fifth DISH takes 5 less to come before the last GUEST, no other one for any GUEST takes more
+    due("full: TOUR", x.now(2), 5);
+    due("full: SWAP", x.now(3), NONE);
+    due("full: FED", x.now(4), 6);
+    due("full: who()", x.who(), 63);
+    for (int i = 0; i < 6; i++) {
+      due("full: fed(" + i + ")", x.fed(i), 0);
+      due("full: NEEDS of " + i, x.guest(i, 4), 63);
+      due("full: PUT of " + i, x.puts(i) < 0 ? 0 : 1, 1);
+      due("full: LOOK for " + i, x.look(i) < 0 ? 0 : 1, 1);
+    }
+    for (int i = 0; i < 6; i++) due("full: SEEN " + i, x.sees(i, 8, 0), i + 1);
+    due("full: odds(10,6,0)", x.odds(10, 6, 0), 1);
+    due("full: odds(9,1,1)", x.odds(9, 1, 1), 500000);
+    due("full: spins(8,1)", x.spins(8, 1), 6);
+    due("full: PORTIONS less six", x.now(1), 48);
+    for (int i = 0; i < 12; i++) x.takes(0, 0);
+    due("full: UNDONE", x.now(5), 9);
+    due("full: reached by 0", x.guest(0, 5), 1 + 2 + 32);
+    due("full: who reach 5", x.dish(5, 4), 1 + 2 + 4);
   }
 
   /** No number, however far off, makes a call fail. */
