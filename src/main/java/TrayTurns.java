@@ -517,11 +517,13 @@ public final class TrayTurns {
         }
 
         int stepsBy(Now n, int g, int d, int way) {
-            if (reaches(n, g, d, n.turn)) {
+            int gap = gap(n, g, d, n.turn);
+            int more = gap - arms[g];
+            int less = seats - gap - arms[g];
+            if (more <= 0 || less <= 0) {
                 return 0;
             }
-            int gap = gap(n, g, d, n.turn);
-            return (way == MORE ? gap : seats - gap) - arms[g];
+            return way == MORE ? more : less;
         }
 
         int reachedBy(Now n, int g) {

@@ -6,8 +6,11 @@ import java.nio.file.Files;
 import java.nio.file.Path;
 import java.util.Arrays;
 import java.util.List;
+import java.util.Map;
 import java.util.Set;
+import java.util.TreeMap;
 import java.util.TreeSet;
+import java.util.regex.Matcher;
 import java.util.regex.Pattern;
 
 /** The rules of LANGUAGE.md that can be seen from the file and the compiled class. */
@@ -84,6 +87,38 @@ public final class RuleTests {
       if (line.startsWith("import")) CHECKS.holds("rule 4: " + line, line.equals("import java.util.Arrays;"));
     CHECKS.holds("rule 3: signs 1 to 127", file.chars().allMatch(c -> c >= 1 && c <= 127));
     methodsAreShort(code);
+    callsAreFlat(code);
+  }
+
+  private static final Pattern HEAD = Pattern.compile("(?m)^(?: {4}| {8})(?:[\\w\\[\\]]+ )+(\\w+)\\([^;=\\n]*\\) \\{$");
+  private static final Pattern CALL = Pattern.compile("(\\w+)\\(");
+
+  /** Rule 11: eight deep at most, the library's own counted; a KIND's call of what is above it is not followed. */
+  private static void callsAreFlat(String code) {
+    Map<String, Set<String>> calls = new TreeMap<>();
+    Matcher head = HEAD.matcher(code);
+    boolean more = head.find();
+    while (more) {
+      String name = head.group(1);
+      int from = head.end();
+      more = head.find();
+      Set<String> called = calls.computeIfAbsent(name, n -> new TreeSet<>());
+      Matcher call = CALL.matcher(code.substring(from, more ? head.start() : code.length()));
+      while (call.find()) if (!call.group(1).equals(name)) called.add(call.group(1));
+    }
+    for (String f : FACE) {
+      String name = f.substring(0, f.indexOf('/'));
+      CHECKS.holds("rule 11: " + name + " was not found", calls.containsKey(name));
+      int deep = depth(calls, name, 0);
+      CHECKS.holds("rule 11: " + name + " goes " + deep + " deep", deep <= 8);
+    }
+  }
+
+  private static int depth(Map<String, Set<String>> calls, String name, int above) {
+    int most = above + 1;
+    if (above > 20) return most;
+    for (String c : calls.getOrDefault(name, Set.of())) most = Math.max(most, depth(calls, c, above + 1));
+    return most;
   }
 
   private static void methodsAreShort(String code) {
