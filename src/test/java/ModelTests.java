@@ -436,7 +436,7 @@ public final class ModelTests {
     List<String> items = new ArrayList<>();
     for (int g = 0; g < Math.min(6, guests); g++) {
       StringBuilder row = new StringBuilder();
-      for (int k = 1 + r.nextInt(short1 == 0 ? 1 : 3); k > 0; k--) row.append((char) ('a' + r.nextInt(6)));
+      for (int k = 1 + r.nextInt(short1 == 0 ? 1 : short1 == 1 ? 3 : 6); k > 0; k--) row.append((char) ('a' + r.nextInt(6)));
       items.add("g" + sits.get(g) + " " + r.nextInt(short1 == 1 ? 1 : 3) + " " + row + ";");
     }
     for (int d = 0; d < Math.min(6, dishes); d++)

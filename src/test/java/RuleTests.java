@@ -1,3 +1,4 @@
+import java.lang.reflect.Array;
 import java.lang.reflect.Constructor;
 import java.lang.reflect.Field;
 import java.lang.reflect.Method;
@@ -5,6 +6,7 @@ import java.lang.reflect.Modifier;
 import java.nio.file.Files;
 import java.nio.file.Path;
 import java.util.Arrays;
+import java.util.IdentityHashMap;
 import java.util.List;
 import java.util.Map;
 import java.util.Set;
@@ -25,6 +27,7 @@ public final class RuleTests {
     face();
     classesInside();
     words();
+    room();
     CHECKS.end("RuleTests");
   }
 
@@ -88,6 +91,7 @@ public final class RuleTests {
     CHECKS.holds("rule 3: signs 1 to 127", file.chars().allMatch(c -> c >= 1 && c <= 127));
     methodsAreShort(code);
     callsAreFlat(code);
+    callsMakeNothing(code);
   }
 
   private static final Pattern HEAD = Pattern.compile("(?m)^(?: {4}| {8})(?:[\\w\\[\\]]+ )+(\\w+)\\([^;=\\n]*\\) \\{$");
@@ -119,6 +123,64 @@ public final class RuleTests {
     if (above > 20) return most;
     for (String c : calls.getOrDefault(name, Set.of())) most = Math.max(most, depth(calls, c, above + 1));
     return most;
+  }
+
+  /** Rule 12: rows are made with the object alone, so that no run of calls can fill the room. */
+  private static void callsMakeNothing(String code) {
+    Matcher head = HEAD.matcher(code);
+    boolean more = head.find();
+    while (more) {
+      String name = head.group(1);
+      int from = head.end();
+      more = head.find();
+      String indent = code.substring(code.lastIndexOf('\n', from - 1) + 1, from).replaceAll("[^ ].*", "");
+      String body = code.substring(from, code.indexOf("\n" + indent + "}", from));
+      boolean makes = Pattern.compile("\\bnew\\b|\\bclone\\(|\\bcopyOf").matcher(body).find();
+      CHECKS.holds("rule 12: " + name + " makes an object", !makes || name.equals("TrayTurns"));
+    }
+  }
+
+  /** What one object takes at first, and that it is the same, object by object, behind calls of every sort. */
+  private static void room() throws Exception {
+    TrayTurns x = new TrayTurns();
+    Map<Object, Boolean> before = new IdentityHashMap<>();
+    long fields = held(x, before);
+    CHECKS.holds("the room: " + before.size() + " objects", before.size() <= 200);
+    CHECKS.holds("the room: " + fields + " fields and elements", fields <= 2000);
+    // thrice stays below the 512 calls of an object
+    for (int i = 0; i < 3; i++) {
+      Checks.busy(x);
+      Watch.answers(x);
+      x.steps(0, 0, 1);
+      x.puts(0);
+      x.fed(0);
+      x.odds(5, 0, 0);
+      x.undo();
+      x.back(0);
+      x.forget();
+      x.clear();
+    }
+    Map<Object, Boolean> behind = new IdentityHashMap<>();
+    CHECKS.due("the room: fields and elements behind calls", held(x, behind), fields);
+    CHECKS.holds("the room: other objects behind calls", before.keySet().equals(behind.keySet()));
+  }
+
+  /** Adds all objects and arrays that this one holds, and itself: how many fields and elements they have. */
+  private static long held(Object one, Map<Object, Boolean> all) throws Exception {
+    if (one == null || all.put(one, true) != null) return 0;
+    long many = 0;
+    if (one.getClass().isArray()) {
+      many = Array.getLength(one);
+      if (one instanceof Object[] row) for (Object o : row) many += held(o, all);
+      return many;
+    }
+    for (Class<?> c = one.getClass(); c != Object.class; c = c.getSuperclass())
+      for (Field f : c.getDeclaredFields())
+        if (!Modifier.isStatic(f.getModifiers())) {
+          f.setAccessible(true);
+          many += 1 + (f.getType().isPrimitive() ? 0 : held(f.get(one), all));
+        }
+    return many;
   }
 
   private static void methodsAreShort(String code) {
